@@ -35,7 +35,8 @@ public final class TreeLanguages {
     private final int[] rankOf = new int[MOST_TREES];
     private int trees = 0;
 
-    private final int[] treesOfSize = new int[MOST_LETTERS + 1];
+    // Ranks ask only for the sizes that a child can have, so MOST_LETTERS itself is left out.
+    private final int[] treesOfSize = new int[MOST_LETTERS];
 
     // The trees of size n have the numbers from startOfSize[n] to startOfSize[n + 1] - 1.
     private final int[] startOfSize = new int[GREATEST_LISTED_SIZE + 2];
@@ -45,6 +46,9 @@ public final class TreeLanguages {
 
     private final int[] stack = new int[MOST_LETTERS];
     private int depth = 0;
+
+    // Not the same as the trees made by calls: a loaded tree counts with all its letters,
+    // though it is a listed one.
     private int made = 0;
 
     public TreeLanguages() {
@@ -87,7 +91,8 @@ public final class TreeLanguages {
         if (made >= MOST_LETTERS) {
             return FULL;
         }
-        return pushNewTree(letter, 0, 0);
+        addLeaf(letter);
+        return pushAddedTree();
     }
 
     public int one() {
@@ -98,7 +103,8 @@ public final class TreeLanguages {
             return TOO_FEW;
         }
         depth = depth - 1;
-        return pushNewTree(ONE_LETTER, stack[depth], 0);
+        addOne(stack[depth]);
+        return pushAddedTree();
     }
 
     public int two() {
@@ -109,7 +115,8 @@ public final class TreeLanguages {
             return TOO_FEW;
         }
         depth = depth - 2;
-        return pushNewTree(TWO_LETTER, stack[depth], stack[depth + 1]);
+        addTwo(stack[depth], stack[depth + 1]);
+        return pushAddedTree();
     }
 
     public int discard() {
@@ -221,10 +228,6 @@ public final class TreeLanguages {
         return n >= 1 && n <= GREATEST_LISTED_SIZE;
     }
 
-    private boolean hasState(int set, int q) {
-        return (set >> q & 1) != 0;
-    }
-
     private int replaceSet(int[] sets, int index, int set) {
         int before = sets[index];
         sets[index] = set;
@@ -233,7 +236,7 @@ public final class TreeLanguages {
 
     private void countTreesOfSizes() {
         treesOfSize[1] = LEAF_LETTERS;
-        for (int n = 2; n <= MOST_LETTERS; n++) {
+        for (int n = 2; n < MOST_LETTERS; n++) {
             treesOfSize[n] = treesOfSize[n - 1] + treesWithFirstBelow(n, n - 1);
         }
     }
@@ -250,7 +253,7 @@ public final class TreeLanguages {
     private void listTrees() {
         startOfSize[1] = 0;
         for (int letter = 0; letter < LEAF_LETTERS; letter++) {
-            addTree(letter, 0, 0);
+            addLeaf(letter);
         }
         startOfSize[2] = trees;
         for (int n = 2; n <= GREATEST_LISTED_SIZE; n++) {
@@ -265,7 +268,7 @@ public final class TreeLanguages {
     private void listOneTrees(int n) {
         int end = startOfSize[n];
         for (int child = startOfSize[n - 1]; child < end; child++) {
-            addTree(ONE_LETTER, child, 0);
+            addOne(child);
         }
     }
 
@@ -274,39 +277,39 @@ public final class TreeLanguages {
         int secondEnd = startOfSize[secondSize + 1];
         for (int first = startOfSize[firstSize]; first < firstEnd; first++) {
             for (int second = startOfSize[secondSize]; second < secondEnd; second++) {
-                addTree(TWO_LETTER, first, second);
+                addTwo(first, second);
             }
         }
     }
 
-    private void addTree(int letter, int first, int second) {
-        letterOf[trees] = letter;
-        firstOf[trees] = first;
-        secondOf[trees] = second;
-        if (letter == TWO_LETTER) {
-            sizeOf[trees] = 1 + sizeOf[first] + sizeOf[second];
-            rankOf[trees] = rankOfTwo(first, second);
-        } else if (letter == ONE_LETTER) {
-            sizeOf[trees] = 1 + sizeOf[first];
-            rankOf[trees] = rankOf[first];
-        } else {
-            sizeOf[trees] = 1;
-            rankOf[trees] = letter;
-        }
-        trees = trees + 1;
+    private void addLeaf(int letter) {
+        addTree(letter, 0, 0, 1, letter);
     }
 
-    private int rankOfTwo(int first, int second) {
+    private void addOne(int child) {
+        addTree(ONE_LETTER, child, 0, 1 + sizeOf[child], rankOf[child]);
+    }
+
+    private void addTwo(int first, int second) {
         int n = 1 + sizeOf[first] + sizeOf[second];
         int withLetterTwo = treesOfSize[n - 1];
         int withSmallerFirst = treesWithFirstBelow(n, sizeOf[first]);
         int withLesserFirst = rankOf[first] * treesOfSize[sizeOf[second]];
-        return withLetterTwo + withSmallerFirst + withLesserFirst + rankOf[second];
+        int rank = withLetterTwo + withSmallerFirst + withLesserFirst + rankOf[second];
+        addTree(TWO_LETTER, first, second, n, rank);
     }
 
-    private int pushNewTree(int letter, int first, int second) {
-        pushTree(trees);
-        addTree(letter, first, second);
+    private void addTree(int letter, int first, int second, int size, int rank) {
+        letterOf[trees] = letter;
+        firstOf[trees] = first;
+        secondOf[trees] = second;
+        sizeOf[trees] = size;
+        rankOf[trees] = rank;
+        trees = trees + 1;
+    }
+
+    private int pushAddedTree() {
+        pushTree(trees - 1);
         made = made + 1;
         return depth;
     }
@@ -346,13 +349,14 @@ public final class TreeLanguages {
 
     private void countRuns(int m, int end) {
         for (int tree = 0; tree < end; tree++) {
-            clearRuns(m, tree);
+            int row = rowOfRuns(m, tree);
+            clearRuns(row);
             if (letterOf[tree] == TWO_LETTER) {
-                countTwoRuns(m, tree);
+                countTwoRuns(m, tree, row);
             } else if (letterOf[tree] == ONE_LETTER) {
-                countOneRuns(m, tree);
+                countOneRuns(m, tree, row);
             } else {
-                addRuns(m, tree, leafSets[m * LEAF_LETTERS + letterOf[tree]], 1);
+                addRuns(row, leafSets[m * LEAF_LETTERS + letterOf[tree]], 1);
             }
         }
     }
@@ -361,36 +365,34 @@ public final class TreeLanguages {
         return (m * MOST_TREES + tree) * STATES;
     }
 
-    private void clearRuns(int m, int tree) {
-        int row = rowOfRuns(m, tree);
+    private void clearRuns(int row) {
         for (int q = 0; q < STATES; q++) {
             runsOf[row + q] = 0;
         }
     }
 
-    private void addRuns(int m, int tree, int set, int more) {
-        int row = rowOfRuns(m, tree);
+    private void addRuns(int row, int set, int more) {
         for (int q = 0; q < STATES; q++) {
-            if (hasState(set, q)) {
+            if ((set >> q & 1) != 0) {
                 runsOf[row + q] = runsOf[row + q] + more;
             }
         }
     }
 
-    private void countOneRuns(int m, int tree) {
-        int row = rowOfRuns(m, firstOf[tree]);
+    private void countOneRuns(int m, int tree, int row) {
+        int childRow = rowOfRuns(m, firstOf[tree]);
         for (int p = 0; p < STATES; p++) {
-            addRuns(m, tree, oneSets[m * STATES + p], runsOf[row + p]);
+            addRuns(row, oneSets[m * STATES + p], runsOf[childRow + p]);
         }
     }
 
-    private void countTwoRuns(int m, int tree) {
+    private void countTwoRuns(int m, int tree, int row) {
         int firstRow = rowOfRuns(m, firstOf[tree]);
         int secondRow = rowOfRuns(m, secondOf[tree]);
         for (int pair = 0; pair < PAIRS; pair++) {
             int p = pair % STATES;
             int q = pair / STATES;
-            addRuns(m, tree, twoSets[m * PAIRS + pair], runsOf[firstRow + p] * runsOf[secondRow + q]);
+            addRuns(row, twoSets[m * PAIRS + pair], runsOf[firstRow + p] * runsOf[secondRow + q]);
         }
     }
 
@@ -409,7 +411,7 @@ public final class TreeLanguages {
         int row = rowOfRuns(m, tree);
         int sum = 0;
         for (int q = 0; q < STATES; q++) {
-            if (hasState(finalSets[m], q)) {
+            if ((finalSets[m] >> q & 1) != 0) {
                 sum = sum + runsOf[row + q];
             }
         }

@@ -12,6 +12,7 @@ public final class KindsTest {
         kindsOfLeaves();
         leastSizes();
         loadsInOrder();
+        loadByTheRulesOfNow();
         loadOfNone();
         refusedLoadChangesNothing();
         loadedTreesAreBuiltUpon();
@@ -72,7 +73,8 @@ public final class KindsTest {
             for (int kind = 0; kind < 7; kind++) {
                 String what = " where " + accepted + " is accepted";
                 Due.due("count(" + kind + ", 1)" + what, x.count(kind, 1), due[kind]);
-                Due.due("load(" + kind + ", 1, last)" + what, x.load(kind, 1, due[kind] - 1), due[kind] > 0 ? 0 : -4);
+                int last = due[kind] - 1;
+                Due.due("load(" + kind + ", 1, " + last + ")" + what, x.load(kind, 1, last), last >= 0 ? 0 : -4);
                 Due.due("load(" + kind + ", 1, past)" + what, x.load(kind, 1, due[kind]), -4);
             }
         }
@@ -122,6 +124,25 @@ public final class KindsTest {
                 Due.due("rank()", x.rank(), k);
                 Due.holds(trees.get(k) + " was loaded", Due.written(x).equals(trees.get(k)));
             }
+        }
+    }
+
+    /** No other call stands between the rules and the load that must heed them. */
+    private static void loadByTheRulesOfNow() {
+        for (int m = 0; m < 2; m++) {
+            TreeLanguages x = new TreeLanguages();
+            x.leafRule(m, 1, 2);
+            x.oneRule(m, 1, 2);
+            x.finals(m, 2);
+            Due.due("load(" + m + ", 3, 0)", x.load(m, 3, 0), 0);
+            Due.holds("221 was loaded", Due.written(x).equals("221"));
+            x.leafRule(m, 0, 2);
+            Due.due("load(" + m + ", 3, 0) by the new rule", x.load(m, 3, 0), 0);
+            Due.holds("220 was loaded", Due.written(x).equals("220"));
+            x.finals(m, 1);
+            Due.due("load(" + m + ", 3, 0) with another final state", x.load(m, 3, 0), -4);
+            Due.due("load(5, 3, 0) with another final state", x.load(5, 3, 0), 0);
+            Due.due("least(" + m + ") with another final state", x.least(m), -4);
         }
     }
 

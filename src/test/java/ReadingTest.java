@@ -10,6 +10,8 @@ public final class ReadingTest {
         greatestNumberOfRuns();
         rulesOfNowAreUsed();
         statesNeedWholeRuns();
+        loadedTreesAreRead();
+        fullStackIsRead();
         Due.end();
     }
 
@@ -146,5 +148,51 @@ public final class ReadingTest {
         x.leaf(0);
         Due.due("states(0) of the topmost tree alone", x.states(0), 1);
         Due.due("runs(0) of the topmost tree alone", x.runs(0), 1);
+    }
+
+    private static void loadedTreesAreRead() {
+        TreeLanguages x = new TreeLanguages();
+        for (int m = 0; m < 2; m++) {
+            x.leafRule(m, 0, 8);
+            x.leafRule(m, 1, 1);
+            x.oneRule(m, 3, 8 >> m);
+            x.oneRule(m, 0, 3);
+            x.twoRule(m, 3, 5);
+            x.twoRule(m, 12, 9);
+            x.finals(m, 9);
+        }
+        readLoaded(x, "0", 0, 8, 8);
+        readLoaded(x, "1", 1, 1, 1);
+        readLoaded(x, "20", 0, 8, 4);
+        readLoaded(x, "21", 1, 3, 3);
+        readLoaded(x, "220", 0, 8, 0);
+        readLoaded(x, "221", 1, 3, 3);
+        readLoaded(x, "300", 2, 0, 0);
+        readLoaded(x, "301", 3, 5, 5);
+        readLoaded(x, "310", 4, 9, 9);
+        readLoaded(x, "311", 5, 0, 0);
+    }
+
+    private static void readLoaded(TreeLanguages x, String tree, int rank, int zero, int one) {
+        Due.due("load of " + tree, x.load(6, tree.length(), rank), 0);
+        Due.holds(tree + " was loaded", Due.written(x).equals(tree));
+        Due.due("states(0) of the loaded " + tree, x.states(0), zero);
+        Due.due("states(1) of the loaded " + tree, x.states(1), one);
+    }
+
+    private static void fullStackIsRead() {
+        TreeLanguages x = new TreeLanguages();
+        for (int m = 0; m < 2; m++) {
+            x.leafRule(m, 0, 9 - m);
+            x.finals(m, 15);
+        }
+        for (int i = 0; i < 12; i++) {
+            x.leaf(0);
+        }
+        Due.due("states(0) of the 12th leaf", x.states(0), 9);
+        Due.due("runs(0) of the 12th leaf", x.runs(0), 2);
+        Due.due("states(1) of the 12th leaf", x.states(1), 8);
+        Due.due("runs(1) of the 12th leaf", x.runs(1), 1);
+        Due.due("leaf(0)", x.leaf(0), -2);
     }
 }
