@@ -1,29 +1,37 @@
 /** Gathers the answers that are not as due, for the tests beside it. */
 final class Due {
+    private static String sentence = "";
+    private static int checkedBefore = 0;
     private static int checked = 0;
     private static int wrong = 0;
 
     private Due() {
     }
 
+    /** Names the words of the document that the calls after it are held to. */
+    static void sentence(String words) {
+        endSentence();
+        sentence = words;
+        checkedBefore = checked;
+    }
+
     static void due(String call, long got, long want) {
         checked++;
         if (got != want) {
-            wrong++;
-            System.out.println(call + " answered " + got + ", due is " + want);
+            tell(call + " answered " + got + ", due is " + want);
         }
     }
 
     static void holds(String what, boolean so) {
         checked++;
         if (!so) {
-            wrong++;
-            System.out.println("does not hold: " + what);
+            tell("does not hold: " + what);
         }
     }
 
     /** Every test's last call; a test that checked nothing fails too. */
     static void end() {
+        endSentence();
         System.out.println(checked + " answers looked at, " + wrong + " not as due");
         if (wrong != 0 || checked == 0) {
             System.exit(1);
@@ -52,5 +60,17 @@ final class Due {
             letters.append(x.letter(i));
         }
         return letters.toString();
+    }
+
+    private static void tell(String what) {
+        wrong++;
+        System.out.println(sentence.isEmpty() ? what : what + " (\"" + sentence + "\")");
+    }
+
+    /** A sentence that nothing was held to is a test that is missing. */
+    private static void endSentence() {
+        if (!sentence.isEmpty() && checked == checkedBefore) {
+            tell("nothing was looked at");
+        }
     }
 }
