@@ -1,4 +1,5 @@
 import java.util.List;
+import java.util.function.ToIntFunction;
 
 /** The edges that promises 15 to 17 name, a sentence at a time. */
 public final class KindEdgesTest {
@@ -94,8 +95,7 @@ public final class KindEdgesTest {
         Due.sentence("Promise 16: NONE if there is none");
         for (int kind = 0; kind < 5; kind++) {
             int of = kind;
-            Refusal.in(Situation.NEW_OBJECT, "least(" + kind + ")", NONE, x -> x.least(of));
-            Refusal.in(Situation.TREES_WITHOUT_RULES, "least(" + kind + ")", NONE, x -> x.least(of));
+            whereNoneIsAccepted("least(" + kind + ")", x -> x.least(of));
         }
         TreeLanguages x = new TreeLanguages();
         acceptEverything(x, 0);
@@ -151,8 +151,7 @@ public final class KindEdgesTest {
                 int size = n;
                 for (int k : new int[] {0, 1, -1, Integer.MIN_VALUE, Integer.MAX_VALUE}) {
                     String call = "load(" + kind + ", " + n + ", " + k + ")";
-                    Refusal.in(Situation.NEW_OBJECT, call, NONE, x -> x.load(of, size, k));
-                    Refusal.in(Situation.TREES_WITHOUT_RULES, call, NONE, x -> x.load(of, size, k));
+                    whereNoneIsAccepted(call, x -> x.load(of, size, k));
                 }
             }
         }
@@ -242,6 +241,14 @@ public final class KindEdgesTest {
             Due.due("leaf(0)", x.leaf(0), 2);
         }
         Due.due("discard()", x.discard(), 2);
+    }
+
+    private static void whereNoneIsAccepted(String call, ToIntFunction<TreeLanguages> made) {
+        for (Situation situation : Situation.values()) {
+            if (situation.acceptsNone()) {
+                Refusal.in(situation, call, NONE, made);
+            }
+        }
     }
 
     private static void loaded(TreeLanguages x, int kind, int n, int k, String tree) {

@@ -8,6 +8,7 @@ final class Refusal {
     private static final int ENDINGS = 3;
 
     private static final Map<Situation, String[]> UNTOUCHED = new EnumMap<>(Situation.class);
+    private static final Map<Situation, TreeLanguages> UNASKED = new EnumMap<>(Situation.class);
 
     private Refusal() {
     }
@@ -34,6 +35,7 @@ final class Refusal {
         for (int ending = 0; ending < ENDINGS; ending++) {
             TreeLanguages x = situation.reach();
             Due.due(call + where, made.applyAsInt(x), code);
+            Due.holds(call + where + " changes nothing that is held", Held.same(x, unasked(situation)));
             String seen = seen(x, ending);
             Due.holds(call + where + " changes nothing: " + seen, seen.equals(untouched(situation)[ending]));
         }
@@ -48,6 +50,10 @@ final class Refusal {
             differs |= !seen(x, ending).equals(untouched(situation)[ending]);
         }
         return differs;
+    }
+
+    private static TreeLanguages unasked(Situation situation) {
+        return UNASKED.computeIfAbsent(situation, Situation::reach);
     }
 
     private static String[] untouched(Situation situation) {

@@ -10,14 +10,16 @@ enum Situation {
     ONE_TREE_OF_12(true, "122222222222"),
     TWELVE_LEAVES(true, "010101010101"),
     LOADED(true, "01" + "l"),
-    LOADED_AND_FULL(true, "01" + "l" + "01011");
+    LOADED_AND_FULL(true, "01" + "l" + "01011"),
+    NONE_FINAL(true, "02" + "013" + "1" + "f"),
+    NONE_FINAL_AND_FULL(true, "01" + "l" + "01011" + "f");
 
     static final int LOADED_SIZE = 7;
 
     private final boolean hasRules;
     private final String steps;
 
-    /** The steps: a letter is the call that makes it, children first; d is discard, l is load. */
+    /** The steps: a letter is the call that makes it, children first; d is discard, l is load, f takes the final states away. */
     Situation(boolean hasRules, String steps) {
         this.hasRules = hasRules;
         this.steps = steps;
@@ -28,13 +30,17 @@ enum Situation {
         if (hasRules) {
             setRules(x);
         }
+        takeAll(x, steps);
+        return x;
+    }
+
+    static void takeAll(TreeLanguages x, String steps) {
         for (int i = 0; i < steps.length(); i++) {
             int answer = step(x, steps.charAt(i));
             if (answer < 0) {
-                Due.due("step " + i + " to " + this, answer, 0);
+                Due.due("step " + i + " of " + steps, answer, 0);
             }
         }
-        return x;
     }
 
     boolean isEmpty() {
@@ -42,12 +48,19 @@ enum Situation {
     }
 
     boolean isFull() {
-        return this == ONE_TREE_OF_12 || this == TWELVE_LEAVES || this == LOADED_AND_FULL;
+        return this == ONE_TREE_OF_12 || this == TWELVE_LEAVES || this == LOADED_AND_FULL
+                || this == NONE_FINAL_AND_FULL;
     }
 
     boolean hasTwoTrees() {
         return this == TREES_WITHOUT_RULES || this == THREE_TREES || this == TWO_TREES_OF_11
-                || this == TWELVE_LEAVES || this == LOADED_AND_FULL;
+                || this == TWELVE_LEAVES || this == LOADED_AND_FULL || this == NONE_FINAL
+                || this == NONE_FINAL_AND_FULL;
+    }
+
+    /** Whether neither automaton accepts a tree. */
+    boolean acceptsNone() {
+        return !hasRules || steps.endsWith("f");
     }
 
     /** Rules that differ between neighbours and between the automata, so that a slip shows. */
@@ -72,6 +85,8 @@ enum Situation {
                 return x.discard();
             case 'l':
                 return x.load(6, LOADED_SIZE, 200);
+            case 'f':
+                return x.finals(0, 0) + x.finals(1, 0);
             case '3':
                 return x.two();
             case '2':

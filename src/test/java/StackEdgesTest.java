@@ -24,6 +24,7 @@ public final class StackEdgesTest {
         leafAnswersTheNumber();
         oneWhenFull();
         oneOnAnEmptyStack();
+        oneTestsFullFirst();
         oneOnOneTree();
         twoWhenFull();
         fullComesBeforeTooFew();
@@ -182,11 +183,20 @@ public final class StackEdgesTest {
         Due.due("one() with 12 made", x.one(), FULL);
     }
 
-    /** A full stack is never an empty one, so that the order of these two tests can't be told here. */
     private static void oneOnAnEmptyStack() {
         Due.sentence("Promise 7: an empty stack answers TOO_FEW");
         Refusal.in(Situation.NEW_OBJECT, "one()", TOO_FEW, TreeLanguages::one);
         Refusal.in(Situation.EMPTIED, "one()", TOO_FEW, TreeLanguages::one);
+    }
+
+    /** No calls lead to an empty stack with 12 made, so that the order shows in a state set by hand alone. */
+    private static void oneTestsFullFirst() {
+        Due.sentence("Promise 7: Tested in this order");
+        TreeLanguages x = new TreeLanguages();
+        Held.set(x, "made", 11);
+        Due.due("one() on an empty stack with 11 made", x.one(), TOO_FEW);
+        Held.set(x, "made", 12);
+        Due.due("one() on an empty stack with 12 made", x.one(), FULL);
     }
 
     private static void oneOnOneTree() {

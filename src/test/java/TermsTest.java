@@ -12,6 +12,7 @@ public final class TermsTest {
 
     public static void main(String[] args) {
         changesWouldBeSeen();
+        changesWouldBeSeenInside();
         askingChangesNothing();
         refusedCallsUpToThe512th();
         stackCallsUpToThe512th();
@@ -62,6 +63,25 @@ public final class TermsTest {
         for (Situation situation : Situation.values()) {
             Due.holds("asking changes nothing in " + situation, !Refusal.changes(situation, TermsTest::askAll));
         }
+    }
+
+    /** Else a look inside that misses something would let every refused call pass. */
+    private static void changesWouldBeSeenInside() {
+        Due.sentence("A refused call .. changes nothing: a change that no call can tell is seen");
+        insideDiffers("the lowest of 12 leaves", "000000000000", "100000000000");
+        insideDiffers("the lower one of two trees of 12 letters", "013" + "122222222", "103" + "122222222");
+        insideDiffers("a letter of the lower one", "00223" + "1222222", "02023" + "1222222");
+    }
+
+    private static void insideDiffers(String what, String steps, String otherSteps) {
+        TreeLanguages x = new TreeLanguages();
+        TreeLanguages y = new TreeLanguages();
+        Situation.takeAll(x, steps);
+        Situation.takeAll(y, steps);
+        Due.holds("inside nothing differs: " + what, Held.same(x, y));
+        y = new TreeLanguages();
+        Situation.takeAll(y, otherSteps);
+        Due.holds("inside this differs: " + what, !Held.same(x, y));
     }
 
     private static int askAll(TreeLanguages x) {
