@@ -9,7 +9,8 @@ import java.util.List;
  * call can tell: at 12 made, for one, nothing shows the trees below the topmost any more.
  */
 final class Held {
-    // Each call that reads it writes it first, so that nothing in it outlives a call.
+    // Each call that reads it writes it first, so that nothing in it outlives a call:
+    // TermsTest spoils it to see that.
     private static final String WORKING_SPACE = "runsOf";
 
     private static final List<Field> FIELDS = fields();
@@ -42,6 +43,16 @@ final class Held {
             throw new IllegalStateException(closed);
         }
         Due.holds("there is a field " + name, false);
+    }
+
+    static void spoilWorkingSpace(TreeLanguages x) {
+        try {
+            Field field = TreeLanguages.class.getDeclaredField(WORKING_SPACE);
+            field.setAccessible(true);
+            Arrays.fill((int[]) field.get(x), 1);
+        } catch (ReflectiveOperationException missing) {
+            throw new IllegalStateException(missing);
+        }
     }
 
     private static List<Field> fields() {

@@ -13,6 +13,7 @@ public final class TermsTest {
     public static void main(String[] args) {
         changesWouldBeSeen();
         changesWouldBeSeenInside();
+        workingSpaceIsNotHeld();
         askingChangesNothing();
         refusedCallsUpToThe512th();
         stackCallsUpToThe512th();
@@ -82,6 +83,33 @@ public final class TermsTest {
         y = new TreeLanguages();
         Situation.takeAll(y, otherSteps);
         Due.holds("inside this differs: " + what, !Held.same(x, y));
+    }
+
+    /** The look inside leaves it out, so that no answer may hang on what an earlier call left there. */
+    private static void workingSpaceIsNotHeld() {
+        Due.sentence("A refused call .. changes nothing: no answer hangs on the working space");
+        for (int i = 0; i < 2; i++) {
+            int m = i;
+            sameWhenSpoilt("states(" + m + ")", x -> x.states(m));
+            sameWhenSpoilt("runs(" + m + ")", x -> x.runs(m));
+        }
+        for (int i = 0; i < 7; i++) {
+            int kind = i;
+            sameWhenSpoilt("least(" + kind + ")", x -> x.least(kind));
+            for (int j = 1; j <= 7; j++) {
+                int n = j;
+                sameWhenSpoilt("count(" + kind + ", " + n + ")", x -> x.count(kind, n));
+                sameWhenSpoilt("rank() after load(" + kind + ", " + n + ", 1)", x -> x.load(kind, n, 1) + x.rank());
+            }
+        }
+    }
+
+    private static void sameWhenSpoilt(String call, ToIntFunction<TreeLanguages> made) {
+        for (Situation situation : Situation.values()) {
+            TreeLanguages x = situation.reach();
+            Held.spoilWorkingSpace(x);
+            Due.due(call + " with it spoilt in " + situation, made.applyAsInt(x), made.applyAsInt(situation.reach()));
+        }
     }
 
     private static int askAll(TreeLanguages x) {
